@@ -7,6 +7,7 @@ final class P05ReceiveStoreTest {
         endOfFileWithoutRoom();
         endOfLine();
         endOfLineWithoutRoom();
+        droppedAddsUp();
         newlineWithoutEcho();
         text();
         fullLine();
@@ -91,6 +92,25 @@ final class P05ReceiveStoreTest {
         TtyDiscipline x = filled(16);
         Checks.due("empty line", x.receive(10), TtyDiscipline.IN_DROPPED);
         Checks.due("dropped", x.query(TtyDiscipline.Q_DROPPED), 1);
+    }
+
+    private static void droppedAddsUp() {
+        TtyDiscipline x = filled(16);
+        Checks.type(x, "ab\4");
+        Checks.due("EOF", x.query(TtyDiscipline.Q_DROPPED), 2);
+        Checks.type(x, "c\4");
+        Checks.due("EOF again", x.query(TtyDiscipline.Q_DROPPED), 3);
+        Checks.type(x, "de\n");
+        Checks.due("newline", x.query(TtyDiscipline.Q_DROPPED), 6);
+        Checks.type(x, "123456789");
+        Checks.due("full line", x.query(TtyDiscipline.Q_DROPPED), 7);
+        x.setFlags(9);
+        x.setFlags(8);
+        Checks.due("leaving canonical mode", x.query(TtyDiscipline.Q_DROPPED), 15);
+        x.receive('z');
+        Checks.due("full input", x.query(TtyDiscipline.Q_DROPPED), 16);
+        x.receive(3);
+        Checks.due("signal", x.query(TtyDiscipline.Q_DROPPED), 32);
     }
 
     private static void newlineWithoutEcho() {
