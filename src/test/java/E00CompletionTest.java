@@ -12,6 +12,8 @@ final class E00CompletionTest {
 
         Checks.sentence("completes only if the input queue holds an entry equal to 10 or EOF_MARK.",
             E00CompletionTest::needsAnEnding);
+        Checks.sentence("completes only if the input queue holds an entry ... (one that has left it does not count)",
+            E00CompletionTest::endingsThatHaveLeft);
         Checks.sentence("completes ... if the input queue holds an entry equal to 10 or EOF_MARK (at any place)",
             E00CompletionTest::endingAtAnyPlace);
         Checks.sentence("if h == EOF_MARK remove it and stop", E00CompletionTest::markAtTheHead);
@@ -184,6 +186,34 @@ final class E00CompletionTest {
         Checks.due("user count", x.query(TtyDiscipline.Q_USER_COUNT), 0);
     }
 
+    /** Every place of the ring has held an ending, then the queue is emptied by reading or by a signal. */
+    private static void endingsThatHaveLeft() {
+        int[] endings = {10, EOF};
+        for (int ending : endings) {
+            for (int bytes = 0; bytes < 64; bytes++) {
+                TtyDiscipline x = Checks.fresh();
+                for (int i = 0; i < 64 + bytes; i++) {
+                    x.receive(ending);
+                    x.startRead(1);
+                    x.takeByte();
+                }
+                Checks.putInput(x, 'A', bytes);
+                x.startRead(1);
+                status(bytes + " bytes where endings were", x, PENDING);
+            }
+            for (int bytes = 0; bytes <= 3; bytes++) {
+                TtyDiscipline x = Checks.fresh();
+                for (int i = 0; i < 64; i++) {
+                    x.receive(ending);
+                }
+                x.receive(3);
+                Checks.putInput(x, 'A', bytes);
+                x.startRead(1);
+                status(bytes + " bytes where endings were flushed", x, PENDING);
+            }
+        }
+    }
+
     /** The ending stands at each place of the queue, and the queue begins at each place of its ring. */
     private static void endingAtAnyPlace() {
         int[] endings = {10, EOF};
@@ -269,6 +299,14 @@ final class E00CompletionTest {
             Checks.due("bytes", Checks.takeBytes(x), "97 98 10");
             Checks.due("input", Checks.input(x), "99 100 10");
         }
+        for (int first = 0; first < 256; first += 32) {
+            TtyDiscipline x = Checks.fresh();
+            Checks.putInput(x, first, 10);
+            Checks.putInput(x, first + 11, 21);
+            x.receive(10);
+            x.startRead(64);
+            status("no other byte ends it, from " + first, x, 32);
+        }
         TtyDiscipline x = Checks.fresh();
         Checks.type(x, "\n\n\4");
         x.startRead(9);
@@ -332,10 +370,12 @@ final class E00CompletionTest {
         status("one of two, no time limit", x, PENDING);
         x.receive('b');
         status("two of two", x, 2);
-        x = raw(2, 0);
-        Checks.type(x, "abc");
-        x.startRead(9);
-        status("more than MIN", x, 3);
+        for (int a = 2; a <= 10; a++) {
+            x = raw(2, 0);
+            Checks.putInput(x, 'a', a);
+            x.startRead(9);
+            status(a + " bytes were there", x, Math.min(a, 9));
+        }
     }
 
     private static void timeOnly() {
@@ -361,10 +401,12 @@ final class E00CompletionTest {
             x.receive('a');
             status("one byte", x, 1);
         }
-        TtyDiscipline x = raw(0, 5);
-        x.receive('a');
-        x.startRead(9);
-        status("one byte was there", x, 1);
+        for (int a = 1; a <= 10; a++) {
+            TtyDiscipline x = raw(0, 5);
+            Checks.putInput(x, 'a', a);
+            x.startRead(9);
+            status(a + " bytes were there", x, Math.min(a, 9));
+        }
     }
 
     private static void minBeforeTime() {
@@ -378,6 +420,12 @@ final class E00CompletionTest {
         status("the byte restarts the timer", x, PENDING);
         x.receive('b');
         status("MIN bytes at once", x, 2);
+        for (int a = 2; a <= 10; a++) {
+            x = raw(2, 5);
+            Checks.putInput(x, 'a', a);
+            x.startRead(9);
+            status(a + " bytes were there", x, Math.min(a, 9));
+        }
     }
 
     private static void timeAfterAByte() {

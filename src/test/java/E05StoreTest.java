@@ -81,6 +81,9 @@ final class E05StoreTest {
             x.receive(EOF);
             Checks.due("output", Checks.output(x), "97 98");
         }
+        TtyDiscipline x = filled(16);
+        Checks.type(x, "ab\4c\4\4");
+        Checks.due("what is lost adds up", x.query(TtyDiscipline.Q_DROPPED), 3);
     }
 
     private static void emptyLineAndEof() {
