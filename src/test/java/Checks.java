@@ -12,7 +12,11 @@ final class Checks {
     /** Runs the test of one sentence of the document; its words stand over the test's wrong answers. */
     static void sentence(String words, Runnable test) {
         sentence = words;
-        test.run();
+        try {
+            test.run();
+        } catch (RuntimeException e) {
+            wrong("a call threw " + e);
+        }
         sentence = "";
     }
 

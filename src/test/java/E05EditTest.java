@@ -7,28 +7,28 @@ final class E05EditTest {
     private static final int[] MODES = {ALL, NO_ECHOE, NO_ECHO, QUIET};
 
     public static void main(String[] args) {
-        Checks.sentence("ERASE: IN_EDITED (also when the line is empty, then no change).",
+        Checks.sentence("Step 4: IN_EDITED (also when the line is empty, then no change).",
             () -> emptyLine(ERASE));
-        Checks.sentence("ERASE: if the line is not empty, its last byte e is removed", E05EditTest::eraseRemoves);
-        Checks.sentence("ERASE: if ECHOE is set, e is rubbed out, else b is echoed "
+        Checks.sentence("Step 4: if the line is not empty, its last byte e is removed", E05EditTest::eraseRemoves);
+        Checks.sentence("Step 4: if ECHOE is set, e is rubbed out, else b is echoed "
             + "(the byte is removed either way).", E05EditTest::eraseEchoes);
-        Checks.sentence("ERASE: if ECHOE is set, e is rubbed out (the byte that was removed, with its own width)",
+        Checks.sentence("Step 4: if ECHOE is set, e is rubbed out (the byte that was removed, with its own width)",
             E05EditTest::eraseUsesItsOwnByte);
 
-        Checks.sentence("WERASE: IN_EDITED (also when empty, then no change).", () -> emptyLine(WERASE));
-        Checks.sentence("WERASE: remove last bytes while the last is 32 or 9, then while the last is neither "
+        Checks.sentence("Step 5: IN_EDITED (also when empty, then no change).", () -> emptyLine(WERASE));
+        Checks.sentence("Step 5: remove last bytes while the last is 32 or 9, then while the last is neither "
             + "32 nor 9 (the line may become empty)", E05EditTest::wordRemoves);
-        Checks.sentence("WERASE: if ECHOE is set, each removed byte is rubbed out in order of removal",
+        Checks.sentence("Step 5: if ECHOE is set, each removed byte is rubbed out in order of removal",
             E05EditTest::wordRubsOutInOrder);
-        Checks.sentence("WERASE: else b is echoed once (the bytes are removed either way).",
+        Checks.sentence("Step 5: else b is echoed once (the bytes are removed either way).",
             E05EditTest::wordEchoesOnce);
 
-        Checks.sentence("KILL: IN_EDITED (also when empty, then no change).", () -> emptyLine(KILL));
-        Checks.sentence("KILL: all bytes are removed from the end until the line is empty",
+        Checks.sentence("Step 6: IN_EDITED (also when empty, then no change).", () -> emptyLine(KILL));
+        Checks.sentence("Step 6: all bytes are removed from the end until the line is empty",
             E05EditTest::killRemoves);
-        Checks.sentence("KILL: if ECHOE is set each is rubbed out in order of removal",
+        Checks.sentence("Step 6: if ECHOE is set each is rubbed out in order of removal",
             E05EditTest::killRubsOutInOrder);
-        Checks.sentence("KILL: else (line still emptied) b is echoed and then 10 is echoed, as two separate units.",
+        Checks.sentence("Step 6: else (line still emptied) b is echoed and then 10 is echoed, as two separate units.",
             E05EditTest::killEchoesTwoUnits);
 
         Checks.sentence("Each echo or rub-out is a unit that is appended whole or not at all",

@@ -4,23 +4,23 @@ final class E05StoreTest {
     private static final int QUIET = 25;
 
     public static void main(String[] args) {
-        Checks.sentence("EOF: if inCap - input count >= len + 1, the line's bytes and then EOF_MARK are appended "
+        Checks.sentence("Step 7: if inCap - input count >= len + 1, the line's bytes and then EOF_MARK are appended "
             + "to the input queue, IN_LINE; else dropped += len, IN_DROPPED.", () -> endings(EOF));
-        Checks.sentence("EOF: The line empties either way. No echo.", E05StoreTest::noEchoOfEof);
-        Checks.sentence("EOF: An empty line with room yields just EOF_MARK.", E05StoreTest::emptyLineAndEof);
-        Checks.sentence("10: if inCap - input count >= len + 1, the line's bytes then 10 are appended to the input "
+        Checks.sentence("Step 7: The line empties either way. No echo.", E05StoreTest::noEchoOfEof);
+        Checks.sentence("Step 7: An empty line with room yields just EOF_MARK.", E05StoreTest::emptyLineAndEof);
+        Checks.sentence("Step 8: if inCap - input count >= len + 1, the line's bytes then 10 are appended to the input "
             + "queue, ... IN_LINE; else dropped += len + 1, ... IN_DROPPED.", () -> endings(10));
-        Checks.sentence("10: 10 is echoed ...; else ... no echo", E05StoreTest::echoOfNewline);
-        Checks.sentence("10: The line empties either way. (an empty line)", E05StoreTest::emptyLineAndNewline);
-        Checks.sentence("EOF and 10 count marks in the input queue as entries", E05StoreTest::marksTakePlaces);
-        Checks.sentence("9: if the line holds lineCap bytes, dropped += 1, IN_DROPPED", E05StoreTest::lineFull);
-        Checks.sentence("9: else b is echoed and b is appended to the line with that echo's width, IN_STORED.",
+        Checks.sentence("Step 8: 10 is echoed ...; else ... no echo", E05StoreTest::echoOfNewline);
+        Checks.sentence("Step 8: The line empties either way. (an empty line)", E05StoreTest::emptyLineAndNewline);
+        Checks.sentence("Steps 7 and 8 count marks in the input queue as entries", E05StoreTest::marksTakePlaces);
+        Checks.sentence("Step 9: if the line holds lineCap bytes, dropped += 1, IN_DROPPED", E05StoreTest::lineFull);
+        Checks.sentence("Step 9: else b is echoed and b is appended to the line with that echo's width, IN_STORED.",
             E05StoreTest::storedWithoutRoom);
-        Checks.sentence("9: a full line is still edited, ended and flushed", E05StoreTest::keysOnAFullLine);
-        Checks.sentence("10: If the input queue is full, dropped += 1, IN_DROPPED", E05StoreTest::inputFull);
-        Checks.sentence("10: else b is appended to the input queue, idle = 0, b is echoed, IN_STORED.",
+        Checks.sentence("Step 9: a full line is still edited, ended and flushed", E05StoreTest::keysOnAFullLine);
+        Checks.sentence("Step 10: If the input queue is full, dropped += 1, IN_DROPPED", E05StoreTest::inputFull);
+        Checks.sentence("Step 10: else b is appended to the input queue, idle = 0, b is echoed, IN_STORED.",
             E05StoreTest::rawByte);
-        Checks.sentence("With ICANON clear no byte edits or ends a line", E05StoreTest::rawKeys);
+        Checks.sentence("Step 10: with ICANON clear no byte edits or ends a line", E05StoreTest::rawKeys);
         Checks.sentence("Then, in every case, the completion check runs.", E05StoreTest::completionCheck);
         Checks.end();
     }
